@@ -56,7 +56,7 @@ public final class NoisePost {
     private final LevelCounts levelCounts = new LevelCounts();
 
     public NoisePost() {
-        readAgain();
+        // The parts begin as what a post without minutes and complaints tells.
     }
 
     // ---- changes
@@ -613,8 +613,8 @@ public final class NoisePost {
             int number = numbers[field];
             boolean fits;
             if (number == NONE) {
-                // A first digit below the least number can still begin a longer one, but for a 0.
-                fits = digit >= FIELD_LEAST[field] || (digit > 0 && 10 * digit <= FIELD_MOST[field]);
+                // Each digit but 0 begins a number of each field: a 1 that is too small begins a 10.
+                fits = digit > 0 || FIELD_LEAST[field] == 0;
                 number = 0;
             } else {
                 fits = number > 0 && 10 * number + digit <= FIELD_MOST[field];
@@ -652,7 +652,7 @@ public final class NoisePost {
 
     /** All that follows from a state by settings of its own: those of the state, or others that are tried. */
     private static final class View {
-        final int[] settings = new int[SETTINGS];
+        final int[] settings = SETTING_AT_FIRST.clone();
         final Minutes minutes = new Minutes();
         final Exceedances exceedances = new Exceedances();
         final Matches matches = new Matches();
@@ -755,7 +755,7 @@ public final class NoisePost {
         int counted;
         int resting;
         int above;
-        int lastWindy;
+        int lastWindy = NONE;
 
         void moveArms(State state, int[] settings) {
             told = state.minutes;

@@ -177,12 +177,12 @@ final class ChangesTest {
 
     private void promise5Forget() {
         NoisePost post = Posts.withLevels(11, 12, 13, 14, 15);
-        post.complain(0);
-        post.complain(1);
         post.complain(2);
+        post.complain(1);
+        post.complain(0);
         post.complain(300);
         check.is("5: forget(1)", 4, post.forget(1));
-        int[] afterOne = {0, 0, 1, 299};
+        int[] afterOne = {1, 0, 0, 299};
         for (int complaint = 0; complaint < 4; complaint++) {
             check.is("5: minutes in complaints", afterOne[complaint], post.complaint(complaint, 0));
         }
@@ -192,13 +192,24 @@ final class ChangesTest {
         check.is("5: a late complaint", 297, post.complaint(3, 0));
         check.is("5: no complaint less", 4, post.count(6));
         check.is("5: all", 0, post.forget(2));
-        check.is("5: not below 0", 0, post.complaint(2, 0));
+        check.is("5: not below 0", 0, post.complaint(0, 0));
         check.is("5: a late complaint", 295, post.complaint(3, 0));
         post.undo();
         post.undo();
         check.is("5: undone", 4, post.count(0));
         check.is("5: undone", 12, post.minute(0, 0));
         check.is("5: undone", 299, post.complaint(3, 0));
+        NoisePost full = new NoisePost();
+        for (int level = 0; level < 200; level++) {
+            full.tell(level % 140, level % 40, 1);
+        }
+        check.is("5: one of 200", 199, full.forget(1));
+        check.is("5: the first of 199", 1, full.minute(0, 0));
+        check.is("5: the last of 199", 59, full.minute(198, 0));
+        check.is("5: its wind", 39, full.minute(198, 1));
+        check.is("5: 199 of 200", 200, full.tell(5, 5, 1));
+        check.is("5: 199 of 200", 1, full.forget(199));
+        check.is("5: the last one", 5, full.minute(0, 0));
     }
 
     private void promise5ForgetTellsAllByTheNewNumbers() {

@@ -15,6 +15,7 @@ final class WhatThereIsTest {
         test.promise14Exceedance();
         test.promise14Gap();
         test.promise14PeakAndWeight();
+        test.promise14PeakOf0();
         test.promise14Throws();
         test.promise15Complaint();
         test.promise15Order();
@@ -59,6 +60,18 @@ final class WhatThereIsTest {
         row("13: slow arm", post, 3, 10, 19, 19, 19, 19);
         post.set(8, 20);
         row("13: fast arm", post, 2, 25, 48, 46, 44, 42);
+        NoisePost low = new NoisePost();
+        low.tell(7, 0, 3);
+        low.set(8, 20);
+        low.set(9, 40);
+        row("13: fast arm", low, 2, 3, 6, 9);
+        row("13: slow arm", low, 3, 1, 2, 3);
+        low.set(8, 15);
+        low.set(9, 50);
+        low.correct(1, 0, 0);
+        low.correct(2, 0, 0);
+        row("13: fast arm", low, 2, 4, 4, 4);
+        row("13: slow arm", low, 3, 1, 1, 1);
     }
 
     private void promise13ArmsStandStill() {
@@ -243,6 +256,17 @@ final class WhatThereIsTest {
         exceedanceRow("14: the weight is the slow arm's", post, 0, 2, 4, 3, 800, 325 + 113 + 6);
     }
 
+    private void promise14PeakOf0() {
+        NoisePost post = Posts.quick(50);
+        post.set(9, 2);
+        post.set(5, 0);
+        post.tell(140, 20, 1);
+        post.tell(140, 20, 1);
+        post.tell(0, 0, 1);
+        // slow arm: 700, 1050, 525
+        exceedanceRow("14: the fast arm stands at 0", post, 0, 2, 2, 1, 0, 25);
+    }
+
     private void promise14Throws() {
         NoisePost none = Posts.withLevels(10, 10);
         check.isThrown("14: there is none", Posts.INDEX, () -> none.exceedance(0, 0));
@@ -337,6 +361,10 @@ final class WhatThereIsTest {
         late.complain(62);
         late.withdraw(0);
         matches("15: patience 60", late, -1);
+        late.complain(1);
+        matches("15: there is one", late, -1, 0);
+        late.set(0, 60);
+        matches("15: there is none any more", late, -1, -1);
     }
 
     private void promise15Throws() {
@@ -393,6 +421,14 @@ final class WhatThereIsTest {
         post.correct(0, 140, 20);
         check.is("17: no counted minutes", -1, post.percentLevel(1));
         check.is("17: no minutes", -1, new NoisePost().percentLevel(100));
+        NoisePost one = Posts.withLevels(1);
+        check.is("17: one minute", 1, one.percentLevel(100));
+        one.tell(3, 0, 60);
+        one.tell(3, 0, 60);
+        one.tell(3, 0, 60);
+        one.tell(3, 0, 19);
+        check.is("17: 199 of 200", 1, one.percentLevel(100));
+        check.is("17: 199 of 200", 3, one.percentLevel(99));
         for (int percent : new int[] {0, 101, -1, Integer.MAX_VALUE, Integer.MIN_VALUE}) {
             check.isThrown("17: percentLevel(" + percent + ")", Posts.ARGUMENT, () -> post.percentLevel(percent));
             check.isThrown("17: of none", Posts.ARGUMENT, () -> new NoisePost().percentLevel(percent));

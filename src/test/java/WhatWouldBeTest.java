@@ -110,6 +110,11 @@ final class WhatWouldBeTest {
         parts.correct(0, 0, 0);
         check.is("21: one up to the limit 39, two, one", 0, parts.leastLimit(1));
         check.is("21: the settings stay", 50, parts.setting(0));
+        NoisePost vetoed = Posts.withLevels(60, 0, 0, 0, 70, 0, 0, 0, 0);
+        check.is("21: two", 60, vetoed.leastLimit(1));
+        vetoed.correct(4, 70, 15);
+        check.is("21: a vetoed minute is above with no limit", 0, vetoed.leastLimit(1));
+        check.is("21: a vetoed minute is above with no limit", 60, vetoed.leastLimit(0));
         check.is("21: no minutes", 0, new NoisePost().leastLimit(0));
         check.is("21: the limit 140", 140, Posts.withLevels(140).leastLimit(0));
     }
@@ -139,6 +144,14 @@ final class WhatWouldBeTest {
         check.is("22: of a new post", 10, post.aboveIn(100));
         check.is("22: never", -1, post.aboveIn(60));
         check.is("22: only in rest", 41, post.aboveIn(70));
+        NoisePost still = Posts.quick(0);
+        still.set(9, 20);
+        check.is("22: the arm stands still at 0", -1, still.aboveIn(1));
+        check.is("22: the arm moves from 0 by 1", 1, still.aboveIn(2));
+        NoisePost single = Posts.withLevels(60);
+        single.set(9, 10);
+        check.is("22: from the place in the only minute", 60, single.minute(0, 3));
+        check.is("22: from the place in the only minute", 6, single.aboveIn(110));
         post.tell(100, 0, 4);
         check.is("22: from the arm's place", 6, post.aboveIn(100));
         post.tell(100, 0, 6);
