@@ -439,7 +439,7 @@ public final class NoisePost {
      * that method is not in the library that the program keeps to.
      */
     private static long bitsOf(double share) {
-        if (!(share > 0.0)) {
+        if (share <= 0.0) {
             return 0L;
         }
         double fraction = share;
