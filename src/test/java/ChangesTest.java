@@ -213,18 +213,31 @@ final class ChangesTest {
     }
 
     private void promise5ForgetTellsAllByTheNewNumbers() {
-        NoisePost post = new NoisePost();
-        post.tell(100, 20, 1);
-        post.tell(80, 3, 50);
+        NoisePost post = behindAWindyMinute();
         check.is("5: a veto by a minute before", 2, post.minute(2, 6));
         post.forget(1);
-        NoisePost fresh = new NoisePost();
-        fresh.tell(80, 3, 50);
-        check.is("5: as if the forgotten minutes had not been", Posts.shown(fresh), Posts.shown(post));
+        String due = Posts.shown(() -> {
+            NoisePost fresh = new NoisePost();
+            fresh.tell(80, 3, 50);
+            return fresh;
+        });
+        String got = Posts.shown(() -> {
+            NoisePost forgotten = behindAWindyMinute();
+            forgotten.forget(1);
+            return forgotten;
+        });
+        check.is("5: as if the forgotten minutes had not been", due, got);
         check.is("5: the winds move too", 3, post.minute(0, 1));
         check.is("5: rest by the new number", 0, post.minute(39, 5));
         check.is("5: rest by the new number", 1, post.minute(40, 5));
         check.is("5: the arm in front of minute 0", 400, post.minute(0, 2));
+    }
+
+    private static NoisePost behindAWindyMinute() {
+        NoisePost post = new NoisePost();
+        post.tell(100, 20, 1);
+        post.tell(80, 3, 50);
+        return post;
     }
 
     private void promise5ForgetThrows() {

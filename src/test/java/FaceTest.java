@@ -44,7 +44,8 @@ final class FaceTest {
         Set<String> got = new TreeSet<>();
         for (Method method : face.getDeclaredMethods()) {
             if (!Modifier.isPrivate(method.getModifiers()) && !method.isSynthetic()) {
-                check.is(method + " is public, of the object", Modifier.PUBLIC, method.getModifiers());
+                check.is(method + " is public", true, Modifier.isPublic(method.getModifiers()));
+                check.is(method + " is of the object", false, Modifier.isStatic(method.getModifiers()));
                 got.add(text(method));
                 names.add(method.getName());
             }
@@ -57,7 +58,8 @@ final class FaceTest {
         }
         for (Field field : face.getDeclaredFields()) {
             boolean isPrivate = Modifier.isPrivate(field.getModifiers());
-            check.is(field + " is private or NONE", true, isPrivate || field.getName().equals("NONE"));
+            boolean isNone = field.getName().equals("NONE");
+            check.is(field + " is private or NONE", true, isPrivate || isNone || field.isSynthetic());
         }
         Constructor<?>[] constructors = face.getDeclaredConstructors();
         check.is("constructors", 1, constructors.length);

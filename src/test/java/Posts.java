@@ -1,3 +1,6 @@
+import java.util.function.Supplier;
+import java.util.stream.LongStream;
+
 /** Posts that the tests begin with. */
 final class Posts {
     static final Class<IllegalArgumentException> ARGUMENT = IllegalArgumentException.class;
@@ -36,27 +39,69 @@ final class Posts {
     }
 
     /** All that undo restores, and what follows from it, but for the saved states. */
-    static String shown(NoisePost post) {
+    static String shown(Supplier<NoisePost> maker) {
         StringBuilder text = new StringBuilder();
+        Fresh fresh = new Fresh(maker);
         for (int what = 0; what <= 11; what++) {
-            text.append(what == 10 ? 0 : post.count(what)).append(' ');
+            text.append(what == 10 ? 0 : fresh.post().count(what)).append(' ');
         }
         for (int setting = 0; setting <= 9; setting++) {
-            text.append(post.setting(setting)).append(' ');
+            text.append(fresh.post().setting(setting)).append(' ');
         }
-        for (int minute = 0; minute < post.count(0); minute++) {
-            for (int what = 0; what <= 7; what++) {
-                text.append(post.minute(minute, what)).append(' ');
-            }
-        }
-        for (int exceedance = 0; exceedance < post.count(5); exceedance++) {
-            for (int what = 0; what <= 5; what++) {
-                text.append(post.exceedance(exceedance, what)).append(' ');
-            }
-        }
-        for (int complaint = 0; complaint < post.count(6); complaint++) {
-            text.append(post.complaint(complaint, 0)).append(' ').append(post.complaint(complaint, 1)).append(' ');
+        for (long value : properties(fresh)) {
+            text.append(value).append(' ');
         }
         return text.toString();
+    }
+
+    static long hash(long before, long... values) {
+        long hash = before;
+        for (long value : values) {
+            hash = 31 * hash + value;
+        }
+        return hash;
+    }
+
+    /** The hash of all values in front of the share, in the document's order. */
+    static long hashBeforeShare(Supplier<NoisePost> maker) {
+        Fresh fresh = new Fresh(maker);
+        long hash = 2161;
+        for (int what = 0; what <= 11; what++) {
+            hash = hash(hash, fresh.post().count(what));
+        }
+        for (int setting = 0; setting <= 9; setting++) {
+            hash = hash(hash, fresh.post().setting(setting));
+        }
+        hash = hash(hash, properties(fresh));
+        for (int level = 0; level <= 140; level += 10) {
+            hash = hash(hash, fresh.post().levelCount(level));
+        }
+        for (int percent : new int[] {1, 10, 50, 90, 100}) {
+            hash = hash(hash, fresh.post().percentLevel(percent));
+        }
+        return hash(hash, fresh.post().leastLimit(1), fresh.post().aboveIn(80));
+    }
+
+    /** Those of each minute, then those of each exceedance, then those of each complaint. */
+    private static long[] properties(Fresh fresh) {
+        LongStream.Builder values = LongStream.builder();
+        int minutes = fresh.post().count(0);
+        for (int minute = 0; minute < minutes; minute++) {
+            for (int what = 0; what <= 7; what++) {
+                values.add(fresh.post().minute(minute, what));
+            }
+        }
+        int exceedances = fresh.post().count(5);
+        for (int exceedance = 0; exceedance < exceedances; exceedance++) {
+            for (int what = 0; what <= 5; what++) {
+                values.add(fresh.post().exceedance(exceedance, what));
+            }
+        }
+        int complaints = fresh.post().count(6);
+        for (int complaint = 0; complaint < complaints; complaint++) {
+            values.add(fresh.post().complaint(complaint, 0));
+            values.add(fresh.post().complaint(complaint, 1));
+        }
+        return values.build().toArray();
     }
 }

@@ -175,29 +175,58 @@ final class TextsTest {
     }
 
     private void promise12UndoOfEachChange() {
+        for (int undone = 1; undone <= 8; undone++) {
+            int left = 9 - undone;
+            int times = undone;
+            NoisePost post = afterChanges(9, undone - 1);
+            check.is("12: how many are left", left - 1, post.undo());
+            check.is("12: as before change " + left,
+                Posts.shown(() -> afterChanges(left, 0)), Posts.shown(() -> afterChanges(9, times)));
+        }
+    }
+
+    /** A post behind so many of nine changes, and so many undos behind these. */
+    private static NoisePost afterChanges(int changes, int undone) {
         NoisePost post = new NoisePost();
-        String[] before = new String[9];
-        post.tell(70, 3, 20);
-        before[0] = Posts.shown(post);
-        post.set(9, 3);
-        before[1] = Posts.shown(post);
-        post.tell(90, 16, 10);
-        before[2] = Posts.shown(post);
-        post.complain(22);
-        before[3] = Posts.shown(post);
-        post.correct(21, 100, 2);
-        before[4] = Posts.shown(post);
-        post.forget(5);
-        before[5] = Posts.shown(post);
-        post.withdraw(0);
-        before[6] = Posts.shown(post);
-        Posts.write(post, "99@1*30;3");
-        post.load();
-        before[7] = Posts.shown(post);
-        post.set(0, 70);
-        for (int step = 7; step >= 0; step--) {
-            check.is("12: how many are left", step, post.undo());
-            check.is("12: as before change " + step, before[step], Posts.shown(post));
+        for (int change = 1; change <= changes; change++) {
+            make(change, post);
+        }
+        for (int i = 0; i < undone; i++) {
+            post.undo();
+        }
+        return post;
+    }
+
+    private static void make(int change, NoisePost post) {
+        switch (change) {
+            case 1:
+                post.tell(70, 3, 20);
+                break;
+            case 2:
+                post.set(9, 3);
+                break;
+            case 3:
+                post.tell(90, 16, 10);
+                break;
+            case 4:
+                post.complain(22);
+                break;
+            case 5:
+                post.correct(21, 100, 2);
+                break;
+            case 6:
+                post.forget(5);
+                break;
+            case 7:
+                post.withdraw(0);
+                break;
+            case 8:
+                Posts.write(post, "99@1*30;3");
+                post.load();
+                break;
+            default:
+                post.set(0, 70);
+                break;
         }
     }
 

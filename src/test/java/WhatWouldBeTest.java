@@ -52,10 +52,8 @@ final class WhatWouldBeTest {
     }
 
     private void promise20IsAsSetAndUndone() {
-        NoisePost post = busy();
-        String before = Posts.shown(post);
-        long digest = post.digest();
         for (int setting = 0; setting <= 9; setting++) {
+            NoisePost post = busy();
             int least = Posts.SETTING_LEAST[setting];
             int most = Posts.SETTING_MOST[setting];
             for (int value : new int[] {least, least + 1, (least + most) / 2, most - 1, most}) {
@@ -66,9 +64,8 @@ final class WhatWouldBeTest {
                         other.count(what), post.ifSet(setting, value, what));
                 }
             }
+            check.is("20: nothing is changed", busy().digest(), post.digest());
         }
-        check.is("20: nothing is changed", before, Posts.shown(post));
-        check.is("20: nothing is changed", digest, post.digest());
     }
 
     private void promise20Throws() {
@@ -262,34 +259,27 @@ final class WhatWouldBeTest {
         check.is("23: none is counted", 0.0, post.share());
     }
 
-    private static long hash(long before, long... values) {
-        long hash = before;
-        for (long value : values) {
-            hash = 31 * hash + value;
-        }
-        return hash;
-    }
-
     private void promise24DigestOfANewPost() {
-        long due = hash(2161, 0, 0, 0, 0, 0, 0, 0, 0, 0, -1, 0, 0);
-        due = hash(due, 70, 60, 40, 20, 15, 2, 3, 10, 2, 8);
-        due = hash(due, 0, 0, 0, 0, 0, 0, 0, 0, 0, 0, 0, 0, 0, 0, 0);
-        due = hash(due, -1, -1, -1, -1, -1, 0, 16, 0, 0);
+        long due = Posts.hash(2161, 0, 0, 0, 0, 0, 0, 0, 0, 0, -1, 0, 0);
+        due = Posts.hash(due, 70, 60, 40, 20, 15, 2, 3, 10, 2, 8);
+        due = Posts.hash(due, 0, 0, 0, 0, 0, 0, 0, 0, 0, 0, 0, 0, 0, 0, 0);
+        due = Posts.hash(due, -1, -1, -1, -1, -1, 0, 16, 0, 0);
         check.is("24: a new post", due, new NoisePost().digest());
         NoisePost post = new NoisePost();
         post.append('~');
         post.append('!');
-        long written = hash(2161, 0, 0, 0, 0, 0, 0, 0, 0, 0, -1, 0, 0);
-        written = hash(written, 70, 60, 40, 20, 15, 2, 3, 10, 2, 8);
-        written = hash(written, 0, 0, 0, 0, 0, 0, 0, 0, 0, 0, 0, 0, 0, 0, 0);
-        written = hash(written, -1, -1, -1, -1, -1, 0, 16, 0, 2, 126, 33);
+        long written = Posts.hash(2161, 0, 0, 0, 0, 0, 0, 0, 0, 0, -1, 0, 0);
+        written = Posts.hash(written, 70, 60, 40, 20, 15, 2, 3, 10, 2, 8);
+        written = Posts.hash(written, 0, 0, 0, 0, 0, 0, 0, 0, 0, 0, 0, 0, 0, 0, 0);
+        written = Posts.hash(written, -1, -1, -1, -1, -1, 0, 16, 0, 2, 126, 33);
         check.is("24: the buffer", written, post.digest());
     }
 
     private void promise24Digest() {
         NoisePost post = busy();
         Posts.write(post, "5@3;x");
-        long due = hash(beforeShare(post), Double.doubleToLongBits(post.share()), 5, '5', '@', '3', ';', 'x');
+        long due = Posts.hash(Posts.hashBeforeShare(WhatWouldBeTest::busy), Double.doubleToLongBits(post.share()));
+        due = Posts.hash(due, 5, '5', '@', '3', ';', 'x');
         check.is("24: a busy post", due, post.digest());
         check.is("24: asked again", due, post.digest());
         check.is("24: there are exceedances", 3, post.count(5));
@@ -305,49 +295,24 @@ final class WhatWouldBeTest {
     }
 
     private void digestOfShare(int counted, int above) {
+        NoisePost post = withAbove(counted, above);
+        double share = (double) above / counted;
+        check.is("24: the share", share, post.share());
+        long before = Posts.hashBeforeShare(() -> withAbove(counted, above));
+        long due = Posts.hash(before, Double.doubleToLongBits(share), 0);
+        check.is("24: " + above + " of " + counted, due, post.digest());
+    }
+
+    private static NoisePost withAbove(int counted, int above) {
         NoisePost post = Posts.quick(50);
         tellAll(post, 60, above);
         tellAll(post, 0, counted - above);
-        double share = (double) above / counted;
-        check.is("24: the share", share, post.share());
-        long due = hash(beforeShare(post), Double.doubleToLongBits(share), 0);
-        check.is("24: " + above + " of " + counted, due, post.digest());
+        return post;
     }
 
     private static void tellAll(NoisePost post, int level, int minutes) {
         for (int left = minutes; left > 0; left -= 60) {
             post.tell(level, 0, Math.min(left, 60));
         }
-    }
-
-    /** The hash of all values in front of the share, in the document's order. */
-    private static long beforeShare(NoisePost post) {
-        long hash = 2161;
-        for (int what = 0; what <= 11; what++) {
-            hash = hash(hash, post.count(what));
-        }
-        for (int setting = 0; setting <= 9; setting++) {
-            hash = hash(hash, post.setting(setting));
-        }
-        for (int minute = 0; minute < post.count(0); minute++) {
-            for (int what = 0; what <= 7; what++) {
-                hash = hash(hash, post.minute(minute, what));
-            }
-        }
-        for (int exceedance = 0; exceedance < post.count(5); exceedance++) {
-            for (int what = 0; what <= 5; what++) {
-                hash = hash(hash, post.exceedance(exceedance, what));
-            }
-        }
-        for (int complaint = 0; complaint < post.count(6); complaint++) {
-            hash = hash(hash, post.complaint(complaint, 0), post.complaint(complaint, 1));
-        }
-        for (int level = 0; level <= 140; level += 10) {
-            hash = hash(hash, post.levelCount(level));
-        }
-        for (int percent : new int[] {1, 10, 50, 90, 100}) {
-            hash = hash(hash, post.percentLevel(percent));
-        }
-        return hash(hash, post.leastLimit(1), post.aboveIn(80));
     }
 }
